@@ -620,7 +620,7 @@ public final class SmokeRelay {
         final int[] moods = new int[MOST_TOWERS];
         final int[] counts = new int[MOST_TOWERS];
         final int[] logLengths = new int[MOST_TOWERS];
-        final char[] logs = new char[MOST_TOWERS * LOG_SIZE];
+        final int[] logs = new int[MOST_TOWERS * LOG_SIZE];
         final int[] sendings = new int[LETTERS];
         int towers = 0;
         int wind = 0;
@@ -638,7 +638,7 @@ public final class SmokeRelay {
             wind = other.wind;
         }
 
-        /** Clears what an undone tower may have left in the same place. */
+        /** Behind the last tower all counts and logs are empty: undo and restore bring back rows in which they were. */
         int append(int position, int height, int mood) {
             if (towers >= MOST_TOWERS) {
                 return NONE;
@@ -647,8 +647,6 @@ public final class SmokeRelay {
             positions[tower] = position;
             heights[tower] = height;
             moods[tower] = mood;
-            counts[tower] = 0;
-            logLengths[tower] = 0;
             towers++;
             return tower;
         }
@@ -688,13 +686,15 @@ public final class SmokeRelay {
         }
 
         char loggedLetter(int tower, int place) {
-            return logs[tower * LOG_SIZE + place];
+            return (char) logs[tower * LOG_SIZE + place];
         }
 
         void addToLog(int tower, char letter) {
             int start = tower * LOG_SIZE;
             if (logLengths[tower] == LOG_SIZE) {
-                System.arraycopy(logs, start + 1, logs, start, LOG_SIZE - 1);
+                for (int place = start + 1; place < start + LOG_SIZE; place++) {
+                    logs[place - 1] = logs[place];
+                }
                 logLengths[tower]--;
             }
             logs[start + logLengths[tower]] = letter;
@@ -816,15 +816,15 @@ public final class SmokeRelay {
         }
 
         private void lookAround() {
-            for (int tower = 0; tower < row.towers; tower++) {
-                seen[tower] = seenFrom(tower);
+            for (int tower = 0; tower < MOST_TOWERS; tower++) {
+                seen[tower] = tower < row.towers ? seenFrom(tower) : 0;
             }
         }
 
         /** A set of towers has one binary digit for each. */
         private int seenBy(int set) {
             int positions = 0;
-            for (int tower = 0; tower < row.towers; tower++) {
+            for (int tower = 0; tower < MOST_TOWERS; tower++) {
                 if ((set >> tower & 1) == 1) {
                     positions |= seen[tower];
                 }
@@ -848,19 +848,19 @@ public final class SmokeRelay {
 
         int smallestWatchByRecursion() {
             lookAround();
-            return towersFor(seenBy((1 << row.towers) - 1), row.towers);
+            return towersFor(seen, seenBy((1 << row.towers) - 1), row.towers);
         }
 
-        /** Answers limit + 1 if limit towers are too few; the limit also ends the recursion. */
-        private int towersFor(int unseen, int limit) {
+        /** Answers limit + 1 if limit towers are too few; each level has a lower limit, which ends the recursion. */
+        private static int towersFor(int[] seen, int unseen, int limit) {
             if (unseen == 0) {
                 return 0;
             }
             int best = limit + 1;
             int firstUnseen = unseen & -unseen;
-            for (int tower = 0; tower < row.towers && best > 1; tower++) {
+            for (int tower = 0; tower < seen.length && best > 1; tower++) {
                 if ((seen[tower] & firstUnseen) != 0) {
-                    best = Math.min(best, 1 + towersFor(unseen & ~seen[tower], best - 2));
+                    best = Math.min(best, 1 + towersFor(seen, unseen & ~seen[tower], best - 2));
                 }
             }
             return best;

@@ -32,6 +32,7 @@ final class CodeTest {
         Check.due("bestCost", relay.bestCost(), want);
         Check.due("bestCostByRows", relay.bestCostByRows(), want);
         Check.due("bestCost again", relay.bestCost(), want);
+        Check.due("bestCostByRows again", relay.bestCostByRows(), want);
     }
 
     private static void costs() {
@@ -61,12 +62,18 @@ final class CodeTest {
         Check.dueExactly("mean of one", relay.meanEye(), 1.0);
         Check.dueExactly("no calm one", relay.calmFraction(), 0.0);
         relay.setGround(5, 9);
+        relay.setGround(0, 3);
         relay.addTower(5, 2, 0);
         relay.addTower(6, 1, 0);
-        Check.dueExactly("mean of three", relay.meanEye(), 13.0 / 3.0);
+        Check.dueExactly("mean of three", relay.meanEye(), 16.0 / 3.0);
         Check.dueExactly("two of three are calm", relay.calmFraction(), 2.0f / 3.0f);
         relay.setMood(0, 0);
         Check.dueExactly("all are calm", relay.calmFraction(), 1.0);
+        for (int tower = 3; tower < 8; tower++) {
+            relay.addTower(4 * tower, 1, 1);
+        }
+        Check.dueExactly("mean of eight", relay.meanEye(), 21.0 / 8.0);
+        Check.dueExactly("three of eight are calm", relay.calmFraction(), 3.0f / 8.0f);
     }
 
     private static void writtenTowers() {
@@ -76,6 +83,7 @@ final class CodeTest {
         Check.dueText("tower without a log", Check.output(relay, relay.writeTower(0)), "12+3!1");
         relay.setGround(0, 4);
         relay.send(1, 0, 'k');
+        Check.dueText("tower with one letter", Check.output(relay, relay.writeTower(0)), "12+3!1:k");
         relay.send(1, 0, 'a');
         relay.send(1, 0, 'b');
         Check.dueText("tower with a log", Check.output(relay, relay.writeTower(0)), "12+3!1:kab");
@@ -83,6 +91,9 @@ final class CodeTest {
             relay.send(1, 0, (char) ('i' + value));
         }
         Check.dueText("tower with a full log", Check.output(relay, relay.writeTower(0)), "12+3!1:ijklmnop");
+        relay.addTower(10, 1, 3);
+        Check.dueText("tower at 10", Check.output(relay, relay.writeTower(2)), "10+1!3");
+        relay.undo();
         Check.dueText("tower at 0", Check.output(relay, relay.writeTower(1)), "0+9!0");
         for (int tower : new int[] {-1, 2, Integer.MIN_VALUE, Integer.MAX_VALUE}) {
             Check.fails("writeTower", IndexOutOfBoundsException.class, () -> relay.writeTower(tower));
@@ -105,23 +116,31 @@ final class CodeTest {
         Check.fails("no tower", IndexOutOfBoundsException.class, () -> relay.writeRelay(0, 8));
         Check.fails("no tower", IndexOutOfBoundsException.class, () -> relay.writeRelay(-1, 0));
         Check.dueText("output after failures", Check.output(relay, 3), "3=0");
-        longDelay();
+        longDelays();
     }
 
     /** On this ground the fastest relay goes to and fro, against the wind each second time. */
-    private static void longDelay() {
+    private static void longDelays() {
+        SmokeRelay relay = mountains("37897910411461203575106359232053", new int[] {6, 31, 7, 14, 24, 26, 30, 0},
+                new int[] {2, 1, 5, 5, 3, 7, 3, 7});
+        Check.dueText("delay of three digits", Check.output(relay, relay.writeRelay(0, 1)), "0>2>3>4>7>5>6>1=118");
+        relay = mountains("57879424021220152180640968237223", new int[] {26, 14, 31, 21, 27, 5, 30, 0},
+                new int[] {3, 2, 6, 5, 4, 2, 5, 5});
+        int length = relay.writeRelay(0, 1);
+        String text = Check.output(relay, length);
+        Check.dueText("the first delay of three digits", text.substring(text.indexOf('=')), "=100");
+    }
+
+    private static SmokeRelay mountains(String ground, int[] positions, int[] heights) {
         SmokeRelay relay = new SmokeRelay();
-        String ground = "37897910411461203575106359232053";
         for (int position = 0; position < 32; position++) {
             relay.setGround(position, ground.charAt(position) - '0');
         }
-        int[] positions = {6, 31, 7, 14, 24, 26, 30, 0};
-        int[] heights = {2, 1, 5, 5, 3, 7, 3, 7};
         for (int tower = 0; tower < 8; tower++) {
             relay.addTower(positions[tower], heights[tower], 0);
         }
         relay.setWind(-9);
-        Check.dueText("delay of three digits", Check.output(relay, relay.writeRelay(0, 1)), "0>2>3>4>7>5>6>1=118");
+        return relay;
     }
 
     private static void writtenPatterns() {

@@ -11,6 +11,7 @@ final class CommandTest {
         undoing();
         undoOfEveryKind();
         undoneTowersLeaveNothing();
+        restoredTowers();
         whatUndoLeaves();
         saving();
         Check.finish("CommandTest");
@@ -48,10 +49,16 @@ final class CommandTest {
         Check.due("wind -0 and mood", Check.executeText(relay, "wind -0;mood 1!3"), 2);
         Check.due("wind", relay.wind(), 0);
         Check.due("mood", relay.mood(1), 3);
-        Check.due("eight commands", Check.executeText(relay, "wind 1;wind 2;wind 3;wind 4;wind 5;wind 6;wind 7;wind 8"), 8);
+        Check.due("eight commands",
+                Check.executeText(relay, "wind 1;wind 2;wind 3;wind 4;wind 5;wind 6;wind 7;wind 8"), 8);
         Check.due("wind", relay.wind(), 8);
+        Check.due("the last letter", Check.executeText(relay, "send 1>1:p;send 1>1:a"), 2);
+        Check.due("sent p", relay.sent('p'), 1);
         Check.fails("no failed command", NoSuchElementException.class, relay::failedCommand);
         Check.fails("no error position", NoSuchElementException.class, relay::errorPosition);
+        Check.feedText(relay, "send 1>");
+        Check.fails("an earlier text is gone", IllegalArgumentException.class, relay::execute);
+        Check.due("error position", relay.errorPosition(), 7);
     }
 
     private static void dueMalformed(String text, int position) {
@@ -243,6 +250,38 @@ final class CommandTest {
         Check.due("count of the new tower", relay.count(1), 0);
         Check.due("log of the new tower", relay.logLength(1), 0);
         Check.due("position of the new tower", relay.positionOf(1), 6);
+    }
+
+    private static void restoredTowers() {
+        SmokeRelay relay = new SmokeRelay();
+        for (int tower = 0; tower < 8; tower++) {
+            relay.addTower(tower, 1, 0);
+        }
+        relay.send(0, 7, 'd');
+        relay.send(0, 7, 'e');
+        relay.save();
+        for (int time = 0; time < 8; time++) {
+            relay.undo();
+        }
+        relay.restore();
+        Check.dueText("tower after restoring", Check.output(relay, relay.writeTower(7)), "7+1!0:de");
+        for (int time = 0; time < 8; time++) {
+            relay.send(6, 7, 'f');
+        }
+        relay.undo();
+        Check.dueText("log after undo", Check.output(relay, relay.writeTower(7)), "7+1!0:efffffff");
+        replacedTower();
+    }
+
+    private static void replacedTower() {
+        SmokeRelay relay = new SmokeRelay();
+        relay.addTower(5, 2, 1);
+        relay.save();
+        relay.undo();
+        relay.addTower(9, 7, 3);
+        Check.due("position", relay.positionOf(0), 9);
+        relay.restore();
+        Check.dueText("the tower that was saved", Check.output(relay, relay.writeTower(0)), "5+2!1");
     }
 
     private static void whatUndoLeaves() {

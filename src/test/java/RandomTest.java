@@ -20,8 +20,8 @@ final class RandomTest {
         "2 seenPositions t", "2 watchersOf p", "1 fewestWatchers ", "1 fewestWatchersByRecursion ", "4 setWind w",
         "1 wind ", "3 delay tt", "3 relayDelay tt", "3 relayDelayByTable tt", "3 relayLength tt", "5 relayTower ttk",
         "2 groupCount ", "1 pattern l", "2 read s", "2 readBySearch s", "1 wrongSmokes s", "3 nextPattern tl",
-        "25 send ttl", "4 wouldBeRefused ttl", "3 count t", "3 logLength t", "3 logLetter tk", "2 sent l", "2 bestCost ",
-        "2 bestCostByRows ", "2 refusalReason ", "2 refusalDetail ", "1 meanEye ", "1 calmFraction ", "4 writeTower t",
+        "25 send ttl", "4 wouldBeRefused ttl", "3 count t", "3 logLength t", "3 logLetter tk", "2 sent l",
+        "2 bestCost ", "2 bestCostByRows ", "2 refusalReason ", "2 refusalDetail ", "1 meanEye ", "1 calmFraction ", "4 writeTower t",
         "4 writeRelay tt", "1 writePattern s", "9 outputCharacter i", "1 isConsistent ", "1 feed c", "1 execute ",
         "1 errorPosition ", "1 failedCommand ", "7 undo ", "2 undoCount ", "1 save ", "1 restore "
     };
@@ -165,11 +165,12 @@ final class RandomTest {
         int tower = random.nextInt(Math.max(1, plain.towerCount()) + (random.nextInt(6) == 0 ? 1 : 0)) % 10;
         int other = random.nextInt(Math.max(1, plain.towerCount()));
         int position = random.nextInt(random.nextInt(8) == 0 ? 100 : 32);
+        int mood = random.nextInt(random.nextInt(5) == 0 ? 9 : 4);
         String number = random.nextBoolean() ? String.valueOf(position) : String.format("%02d", position);
         return switch (random.nextInt(6)) {
             case 0 -> "ground " + number + "*" + random.nextInt(10);
-            case 1 -> "tower " + number + "+" + random.nextInt(10) + "!" + random.nextInt(random.nextInt(5) == 0 ? 9 : 4);
-            case 2 -> "mood " + tower + "!" + random.nextInt(random.nextInt(5) == 0 ? 9 : 4);
+            case 1 -> "tower " + number + "+" + random.nextInt(10) + "!" + mood;
+            case 2 -> "mood " + tower + "!" + mood;
             case 3 -> "wind " + (random.nextBoolean() ? "-" : "") + random.nextInt(10);
             default -> "send " + tower + ">" + other + ":" + (char) ('a' + random.nextInt(16));
         };

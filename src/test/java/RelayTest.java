@@ -9,6 +9,7 @@ final class RelayTest {
         relayOverOthers();
         relayOfFewestTowers();
         relayOfSmallestIndices();
+        relayOverOneTower();
         noRelay();
         wrongTowers();
         groups();
@@ -117,6 +118,25 @@ final class RelayTest {
         dueRelay(relay, 1, 4, 2, 1, 0, 4);
         relay.setGround(1, 2);
         dueRelay(relay, 1, 4, 2, 1, 2, 4);
+    }
+
+    /** Two towers in dells see no other one but the tower on the ridge between them. */
+    private static void relayOverOneTower() {
+        for (int ridge = 0; ridge < 3; ridge++) {
+            SmokeRelay relay = new SmokeRelay();
+            for (int tower = 0; tower < 3; tower++) {
+                relay.addTower(tower == ridge ? 10 : 6 + 8 * ((tower - ridge + 3) % 3 - 1), 1, 0);
+            }
+            relay.setGround(10, 9);
+            int left = (ridge + 1) % 3;
+            int right = (ridge + 2) % 3;
+            Check.due("by table alone", relay.relayDelayByTable(left, right), 8);
+            dueRelay(relay, left, right, 8, left, ridge, right);
+            relay.setWind(3);
+            Check.due("by table after a change", relay.relayDelayByTable(right, left), 14);
+            dueRelay(relay, right, left, 14, right, ridge, left);
+            Check.due("one group over the ridge", relay.groupCount(), 1);
+        }
     }
 
     private static void noRelay() {

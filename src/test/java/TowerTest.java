@@ -153,6 +153,8 @@ final class TowerTest {
         for (int rank = 0; rank < 4; rank++) {
             Check.due("towerByEye(" + rank + ")", relay.towerByEye(rank), due[rank]);
         }
+        relay.setGround(2, 1);
+        Check.due("a lead of one", relay.towerByEye(2), 2);
         for (int rank : new int[] {-1, 4, Integer.MIN_VALUE, Integer.MAX_VALUE}) {
             Check.fails("towerByEye(" + rank + ")", NoSuchElementException.class, () -> relay.towerByEye(rank));
         }
