@@ -22,8 +22,8 @@ final class RandomTest {
         "2 groupCount ", "1 pattern l", "2 read s", "2 readBySearch s", "1 wrongSmokes s", "3 nextPattern tl",
         "25 send ttl", "4 wouldBeRefused ttl", "3 count t", "3 logLength t", "3 logLetter tk", "2 sent l",
         "2 bestCost ", "2 bestCostByRows ", "2 refusalReason ", "2 refusalDetail ", "1 meanEye ", "1 calmFraction ",
-        "4 writeTower t", "4 writeRelay tt", "1 writePattern s", "9 outputCharacter i", "1 isConsistent ", "1 feed c", "1 execute ",
-        "1 errorPosition ", "1 failedCommand ", "7 undo ", "2 undoCount ", "1 save ", "1 restore "
+        "4 writeTower t", "4 writeRelay tt", "1 writePattern s", "9 outputCharacter i", "1 isConsistent ",
+        "1 feed c", "1 execute ", "1 errorPosition ", "1 failedCommand ", "7 undo ", "2 undoCount ", "1 save ", "1 restore "
     };
 
     private final Random random;
