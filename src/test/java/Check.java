@@ -2,6 +2,7 @@
 final class Check {
     private static int calls = 0;
     private static int wrong = 0;
+    private static String place = "";
 
     private Check() {
     }
@@ -18,7 +19,7 @@ final class Check {
         calls++;
         if (!got.equals(want)) {
             wrong++;
-            System.out.println(what + " answered " + got + ", due is " + want);
+            System.out.println(place + what + " answered " + got + ", due is " + want);
         }
     }
 
@@ -35,6 +36,19 @@ final class Check {
             got = e.getClass().getName();
         }
         dueText(what + " throws", got, kind.getName());
+    }
+
+    /** Wrong answers within the test are printed behind the name of the place; one that breaks off is wrong, too. */
+    static void within(String name, Runnable test) {
+        place = name;
+        String end = "whole";
+        try {
+            test.run();
+        } catch (RuntimeException e) {
+            end = "broken off by " + e + " at " + e.getStackTrace()[0];
+        }
+        dueText("the test", end, "whole");
+        place = "";
     }
 
     static void feedText(SmokeRelay relay, String text) {

@@ -116,31 +116,6 @@ final class CodeTest {
         Check.fails("no tower", IndexOutOfBoundsException.class, () -> relay.writeRelay(0, 8));
         Check.fails("no tower", IndexOutOfBoundsException.class, () -> relay.writeRelay(-1, 0));
         Check.dueText("output after failures", Check.output(relay, 3), "3=0");
-        longDelays();
-    }
-
-    /** On this ground the fastest relay goes to and fro, against the wind each second time. */
-    private static void longDelays() {
-        SmokeRelay relay = mountains("37897910411461203575106359232053", new int[] {6, 31, 7, 14, 24, 26, 30, 0},
-                new int[] {2, 1, 5, 5, 3, 7, 3, 7});
-        Check.dueText("delay of three digits", Check.output(relay, relay.writeRelay(0, 1)), "0>2>3>4>7>5>6>1=118");
-        relay = mountains("57879424021220152180640968237223", new int[] {26, 14, 31, 21, 27, 5, 30, 0},
-                new int[] {3, 2, 6, 5, 4, 2, 5, 5});
-        int length = relay.writeRelay(0, 1);
-        String text = Check.output(relay, length);
-        Check.dueText("the first delay of three digits", text.substring(text.indexOf('=')), "=100");
-    }
-
-    private static SmokeRelay mountains(String ground, int[] positions, int[] heights) {
-        SmokeRelay relay = new SmokeRelay();
-        for (int position = 0; position < 32; position++) {
-            relay.setGround(position, ground.charAt(position) - '0');
-        }
-        for (int tower = 0; tower < 8; tower++) {
-            relay.addTower(positions[tower], heights[tower], 0);
-        }
-        relay.setWind(-9);
-        return relay;
     }
 
     private static void writtenPatterns() {
