@@ -37,8 +37,8 @@ final class CodeBounds {
 
     private static void testMeans() {
         Sentences.under("Promise 42");
-        Sentences.holds("Returns the mean height of the eyes: the sum divided by the number of towers, both converted to"
-                + " double.", CodeBounds::smallestAndGreatestMean);
+        Sentences.holds("Returns the mean height of the eyes: the sum divided by the number of towers, both converted"
+                + " to double.", CodeBounds::smallestAndGreatestMean);
         Sentences.holds(NO_TOWERS, () -> dueNoMean(relay -> (int) (relay.meanEye() * 10), 10));
         Sentences.under("Promise 43");
         Sentences.holds("Returns the fraction of towers with the mood 0: their number divided by the number of all"
@@ -206,6 +206,10 @@ final class CodeBounds {
                 new int[] {3, 2, 6, 5, 4, 2, 5, 5});
         String text = Check.output(relay, relay.writeRelay(0, 1));
         Check.dueText("the first delay of three digits", text.substring(text.indexOf('=')), "=100");
+        relay = mountains("10542810096456015137575402913578", new int[] {0, 25, 2, 10, 6, 23, 15, 31},
+                new int[] {1, 1, 3, 2, 8, 3, 6, 2});
+        Check.dueText("the last delay of two digits", Check.output(relay, relay.writeRelay(0, 1)),
+                "0>2>4>7>6>3>5>1=99");
     }
 
     private static SmokeRelay mountains(String ground, int[] positions, int[] heights) {

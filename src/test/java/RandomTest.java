@@ -9,7 +9,8 @@ import java.util.TreeMap;
 /** Random calls on SmokeRelay and on PlainRow; both must answer alike. The seeds are written down, so runs repeat. */
 final class RandomTest {
     private static final int RUNS = 400;
-    private static final int CALLS = 500;
+    /** What an object answers to later calls is free. */
+    private static final int CALLS = 512;
     /**
      * How often a call is made, its name and its arguments: p position, h height, t tower, m mood, k rank, recency or
      * place, w wind, l letter, s pattern, i index, c any character.
@@ -23,7 +24,8 @@ final class RandomTest {
         "25 send ttl", "4 wouldBeRefused ttl", "3 count t", "3 logLength t", "3 logLetter tk", "2 sent l",
         "2 bestCost ", "2 bestCostByRows ", "2 refusalReason ", "2 refusalDetail ", "1 meanEye ", "1 calmFraction ",
         "4 writeTower t", "4 writeRelay tt", "1 writePattern s", "9 outputCharacter i", "1 isConsistent ",
-        "1 feed c", "1 execute ", "1 errorPosition ", "1 failedCommand ", "7 undo ", "2 undoCount ", "1 save ", "1 restore "
+        "1 feed c", "1 execute ", "1 errorPosition ", "1 failedCommand ", "7 undo ", "2 undoCount ", "1 save ",
+        "1 restore "
     };
 
     private final Random random;
@@ -69,8 +71,9 @@ final class RandomTest {
     private void run(int seed, List<String> draw, Map<String, Method> tested, Map<String, Method> due)
             throws IllegalAccessException {
         while (calls < CALLS && wrong == 0) {
-            if (random.nextInt(25) == 0) {
-                for (char character : text().toCharArray()) {
+            String text = random.nextInt(25) == 0 ? text() : "";
+            if (!text.isEmpty() && calls + text.length() < CALLS) {
+                for (char character : text.toCharArray()) {
                     call(tested.get("feed"), due.get("feed"), character);
                 }
                 call(tested.get("execute"), due.get("execute"));

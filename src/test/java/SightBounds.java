@@ -96,5 +96,13 @@ final class SightBounds {
         Check.due("with eight of which none can be spared", fewest.of(relay), 8);
         relay.undo();
         Check.due("with two that see the same", fewest.of(relay), 7);
+        SmokeRelay low = Bounds.rowOf(5, 9);
+        low.setGround(0, 9);
+        low.setGround(7, 1);
+        Check.due("where a hill without a tower would see all", fewest.of(low), 2);
+        low.addTower(0, 1, 0);
+        Check.due("where a tower on this hill sees all", fewest.of(low), 1);
+        low.undo();
+        Check.due("where this tower is undone", fewest.of(low), 2);
     }
 }

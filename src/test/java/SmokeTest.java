@@ -51,8 +51,8 @@ final class SmokeTest {
     }
 
     private static void readings() {
-        SmokeRelay relay = new SmokeRelay();
         for (int pattern = 0; pattern < 256; pattern++) {
+            SmokeRelay relay = new SmokeRelay();
             int nearest = 8;
             char letter = ' ';
             for (int value = 0; value < 16; value++) {
