@@ -1,11 +1,19 @@
+import java.io.IOException;
 import java.lang.reflect.Field;
 import java.lang.reflect.Method;
 import java.lang.reflect.Modifier;
+import java.nio.file.Files;
+import java.nio.file.Path;
 import java.util.Arrays;
+import java.util.List;
 import java.util.TreeSet;
+import java.util.regex.MatchResult;
+import java.util.regex.Pattern;
 
 /** The members of the class are those of the document's face, and no others can be seen from outside. */
 final class FaceTest {
+    /** A member as it is written, up to its body or its end. */
+    private static final Pattern MEMBER = Pattern.compile("(?m)^    (public [^{;]+)");
     private static final String[] METHODS = {
         "int setGround(int,int)", "int addTower(int,int,int)", "int setMood(int,int)", "int ground(int)",
         "int towerCount()", "int positionOf(int)", "int eye(int)", "int mood(int)", "int towerAt(int)",
@@ -23,7 +31,7 @@ final class FaceTest {
         "int restore()"
     };
 
-    public static void main(String[] arguments) {
+    public static void main(String[] arguments) throws IOException {
         Check.due("NO_RELAY", SmokeRelay.NO_RELAY, 1);
         Check.due("GARBLED", SmokeRelay.GARBLED, 2);
         Check.due("the class is public and final", SmokeRelay.class.getModifiers(), Modifier.PUBLIC | Modifier.FINAL);
@@ -35,7 +43,31 @@ final class FaceTest {
             Check.due(inside + " is static", Modifier.isStatic(inside.getModifiers()), true);
             Check.due(inside + " is hidden", inside.getModifiers() & (Modifier.PUBLIC | Modifier.PROTECTED), 0);
         }
+        writtenMembers();
         Check.finish("FaceTest");
+    }
+
+    /** The same members in the same order with the same names of parameters and the same exceptions. */
+    private static void writtenMembers() throws IOException {
+        Path document = Path.of(System.getProperty("document", "../shared/DOC.md"));
+        Path source = Path.of(System.getProperty("source", "src/main/java/SmokeRelay.java"));
+        if (!Files.exists(document) || !Files.exists(source)) {
+            System.out.println("the document or the source is not there, so they are not compared");
+            return;
+        }
+        String section = Files.readString(document).split("\n## ")[2];
+        List<String> due = membersOf(section);
+        List<String> got = membersOf(Files.readString(source));
+        Check.due("members in the document", due.size(), METHODS.length + 3);
+        for (int member = 0; member < Math.max(due.size(), got.size()); member++) {
+            Check.dueText("member " + member, member < got.size() ? got.get(member) : "nothing",
+                    member < due.size() ? due.get(member) : "nothing");
+        }
+    }
+
+    private static List<String> membersOf(String text) {
+        return MEMBER.matcher(text).results().map(MatchResult::group)
+                .map(member -> member.trim().replaceAll("\\s+", " ")).toList();
     }
 
     private static void methods() {

@@ -10,22 +10,16 @@ import java.util.Set;
 import java.util.regex.Pattern;
 
 /**
- * The sentences of the document. A sentence that names a boundary case has a test of its own, which is told by the
+ * The sentences of the document. A sentence that promises something has a test of its own, which is told by the
  * sentence's very words, so that a test without a sentence and a sentence without a test both come to light.
  */
 final class Sentences {
     private static final Pattern SIGNATURE = Pattern.compile("^(\\w+ )?\\w+\\([^)]*\\)( throws [\\w, ]+)?: ");
-    /** The words that give a boundary case away. */
-    private static final Pattern BOUNDARY = Pattern.compile("^Throws |at most|at least|at first|at once| from -?[01]"
-            + "|from 'a'| 0[ .,]|empty|without|alone|modulo|different|one or |too early|single|none|refused|latest"
-            + "|also if|both towers|in place of|stays|kept|no such|but the last|several|no change|letter by letter");
-    /** Sentences that have such a word and yet name no boundary case. */
-    private static final Set<String> WITHOUT_BOUNDARY = Set.of(
-            "What it is: A row of watchtowers with chimneys: ground that hides towers from each other, relays against"
-                    + " and with the wind, letters as patterns of smokes whose wrong smokes are found, chimneys whose"
-                    + " moods change smokes, logs of what was read, watches over the ground, codes for the letters that"
-                    + " were sent; sight, relays, readings, watches and codes by two methods each, reasons for what is"
-                    + " refused, text commands, and undo.");
+    /** The names of parameters, which FaceTest looks up, comments of the interface, names of terms, and the overview. */
+    private static final Pattern NO_PROMISE = Pattern.compile("\\w+: the (position|height|mood|wind|letter|pattern"
+            + "|index of the (one |other |first |last )?tower)|Ahead of the calls .* the interface says: .*"
+            + "|(Ground and towers|Sight|Wind|Relays|Patterns|Moods|Sending|Codes|Watches|Commands|Undo)\\."
+            + "|A row of watchtowers with chimneys: .*");
 
     private static final Set<String> tested = new HashSet<>();
     private static String heading = "";
@@ -44,6 +38,12 @@ final class Sentences {
         Check.within(told + "\n    ", test);
     }
 
+    /** Two sentences under one heading that say the same. */
+    static void hold(String sentence, String other, Runnable test) {
+        holds(sentence, test);
+        Check.due(heading + ": " + other + " (tested once)", tested.add(heading + ": " + other), true);
+    }
+
     static void dueAllTested(String path) {
         Map<String, List<String>> document = read(path);
         if (document.isEmpty()) {
@@ -55,7 +55,7 @@ final class Sentences {
             for (String sentence : section.getValue()) {
                 String told = section.getKey() + ": " + sentence;
                 standing.add(told);
-                if (BOUNDARY.matcher(sentence).find() && !WITHOUT_BOUNDARY.contains(told)) {
+                if (!NO_PROMISE.matcher(sentence).matches()) {
                     Check.due("tested: " + told, tested.contains(told), true);
                 }
             }
@@ -77,7 +77,7 @@ final class Sentences {
             int end = section.indexOf('\n');
             String title = section.substring(0, Math.max(end, 0)).replaceFirst(":.*", "");
             if (title.startsWith("Promise ") || title.equals("Terms") || title.equals("What it is")) {
-                sections.put(title, sentencesOf(section.substring(end)));
+                sections.put(title, sentencesOf(section.substring(end).trim()));
             }
         }
         return sections;

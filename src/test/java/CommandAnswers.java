@@ -1,31 +1,45 @@
 import java.util.NoSuchElementException;
 
-/** Promises 49 to 56: commands, undo and saved state. */
-final class CommandTest {
-    public static void main(String[] arguments) {
-        feeding();
-        commands();
-        malformedTexts();
-        failedCommands();
-        refusalInCommands();
-        undoing();
-        undoOfEveryKind();
-        undoneTowersLeaveNothing();
-        restoredTowers();
-        whatUndoLeaves();
-        saving();
-        Check.finish("CommandTest");
+/** The ordinary answers of promises 49 to 56: commands, undo and saved state. */
+final class CommandAnswers {
+    private CommandAnswers() {
+    }
+
+    static void test() {
+        Sentences.under("Promise 49");
+        Sentences.holds("Appends a character to the input buffer.", CommandAnswers::feeding);
+        Sentences.under("Promise 51");
+        Sentences.holds("Returns the error position.", CommandAnswers::malformedTexts);
+        Sentences.under("Promise 52");
+        Sentences.holds("Returns the index of the command.", CommandAnswers::failedCommands);
+        Sentences.under("Promise 54");
+        Sentences.holds("Returns the number of changes that can be undone.", CommandAnswers::undoing);
+        testRuns();
+    }
+
+    /** Longer runs, in which several promises meet. */
+    private static void testRuns() {
+        Check.within("commands: ", CommandAnswers::commands);
+        Check.within("refusals of commands: ", CommandAnswers::refusalInCommands);
+        Check.within("undo of every kind: ", CommandAnswers::undoOfEveryKind);
+        Check.within("towers that were undone: ", CommandAnswers::undoneTowersLeaveNothing);
+        Check.within("towers that were restored: ", CommandAnswers::restoredTowers);
+        Check.within("what undo leaves: ", CommandAnswers::whatUndoLeaves);
+        Check.within("saved state: ", CommandAnswers::saving);
     }
 
     private static void feeding() {
         SmokeRelay relay = new SmokeRelay();
-        for (int length = 1; length <= 60; length++) {
-            Check.due("feed", relay.feed(length == 7 ? (char) 0xFFFF : 'g'), length);
+        String text = "wind 3;wind -4";
+        for (int place = 0; place < text.length(); place++) {
+            Check.due("feed", relay.feed(text.charAt(place)), place + 1);
+            Check.due("the wind is not yet set", relay.wind(), 0);
         }
-        Check.fails("feed a full buffer", IllegalStateException.class, () -> relay.feed('x'));
-        Check.fails("execute a full buffer", IllegalArgumentException.class, relay::execute);
-        Check.due("error position", relay.errorPosition(), 1);
-        Check.due("the buffer is empty afterwards", relay.feed('x'), 1);
+        Check.due("both commands", relay.execute(), 2);
+        Check.due("wind", relay.wind(), -4);
+        Check.due("feed the next text", relay.feed('w'), 1);
+        Check.due("the next text", Check.executeText(relay, "ind 7"), 1);
+        Check.due("wind", relay.wind(), 7);
     }
 
     private static void commands() {
