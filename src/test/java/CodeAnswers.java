@@ -17,8 +17,8 @@ final class CodeAnswers {
 
     private static void testCodes() {
         Sentences.under("Terms");
-        Sentences.holds("The cost of a code is the sum, over these letters, of how often the letter was sent, multiplied"
-                + " by the length of its word.", CodeAnswers::costsOfGivenWords);
+        Sentences.holds("The cost of a code is the sum, over these letters, of how often the letter was sent,"
+                + " multiplied by the length of its word.", CodeAnswers::costsOfGivenWords);
         Sentences.holds("The best code has the smallest cost.", CodeAnswers::smallestCosts);
         Sentences.under("Promise 38");
         Sentences.holds("Returns the cost of the best code, computed by joining the two rarest groups of letters again"

@@ -12,7 +12,7 @@ import java.util.TreeSet;
 import java.util.regex.Matcher;
 import java.util.regex.Pattern;
 
-/** The rules of LANGUAGE.md that can be seen in the text of the class or in its members; stricter where it needs less. */
+/** The rules of LANGUAGE.md that are seen in the text of the class or in its members; stricter where it needs less. */
 final class LanguageTest {
     private static final Pattern COMMENTS = Pattern.compile("(?s)/\\*.*?\\*/|//[^\\n]*");
     private static final Pattern LITERALS = Pattern.compile("\"(\\\\.|[^\"\\\\])*\"|'(\\\\.|[^'\\\\])'");
@@ -21,12 +21,12 @@ final class LanguageTest {
     private static final Map<String, Set<String>> LIBRARY = Map.of("Math", Set.of("max", "min", "abs", "floorMod"),
             "Integer", Set.of("compare", "max", "min", "bitCount"), "System", Set.of("arraycopy"),
             "Arrays", Set.of("copyOf", "copyOfRange", "fill"));
-    private static final String[] UNUSED = {"->", "::", "\\btry\\b", "\\bcatch\\b", "\\bfinally\\b", "\\bsynchronized\\b",
-        "\\bassert\\b", "\\bprotected\\b", "\\bpackage\\b", "\\bvolatile\\b", "\\bnative\\b", "\\binstanceof\\b",
-        "\\bgetMessage\\b", "\\bhashCode\\b", "\\btoString\\b", "\\bequals\\b", "\\bThread\\b", "\\bRandom\\b",
-        "\\bException\\b", "\\bError\\b", "\\bObject\\b", "\\?\\?", "while \\(true\\)", "for \\(;;\\)"};
-    private static final Pattern THROW = Pattern.compile("\\bthrow (?!new (IllegalState|IllegalArgument|IndexOutOfBounds"
-            + "|Arithmetic|UnsupportedOperation|NoSuchElement)Exception\\(\"[^\"]*\"\\);)");
+    private static final String[] UNUSED = {"->", "::", "while \\(true\\)", "for \\(;;\\)"};
+    private static final String[] UNUSED_WORDS = {"try", "catch", "finally", "synchronized", "assert", "protected",
+        "package", "volatile", "native", "instanceof", "getMessage", "hashCode", "toString", "equals", "Thread",
+        "Random", "Exception", "Error", "Object"};
+    private static final Pattern THROW = Pattern.compile("\\bthrow (?!new (IllegalState|IllegalArgument"
+            + "|IndexOutOfBounds|Arithmetic|UnsupportedOperation|NoSuchElement)Exception\\(\"[^\"]*\"\\);)");
     private static final Pattern JOINED = Pattern.compile("\"\\s*\\+|\\+\\s*\"");
     private static final int MOST_CLASSES = 12;
     private static final int MOST_FIELDS = 20;
@@ -55,6 +55,9 @@ final class LanguageTest {
         String code = LITERALS.matcher(bare).replaceAll("0");
         for (String unused : UNUSED) {
             dueNone(unused, Pattern.compile(unused), code);
+        }
+        for (String word : UNUSED_WORDS) {
+            dueNone(word, Pattern.compile("\\b" + word + "\\b"), code);
         }
     }
 

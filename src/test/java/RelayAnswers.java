@@ -38,8 +38,8 @@ final class RelayAnswers {
         Sentences.holds("Its delay is the sum of the delays from each tower to the next one.",
                 () -> eachSample(RelayAnswers::dueSum));
         Sentences.under("Promise 22");
-        Sentences.hold("Returns the delay of the fastest relay, computed by settling the nearest tower again and again.",
-                "Returns the delay.", () -> eachSample((relay, delay, towers) -> Check.due("relayDelay",
+        Sentences.hold("Returns the delay of the fastest relay, computed by settling the nearest tower again and"
+                + " again.", "Returns the delay.", () -> eachSample((relay, delay, towers) -> Check.due("relayDelay",
                         relay.relayDelay(towers[0], towers[towers.length - 1]), delay)));
         Sentences.under("Promise 23");
         Sentences.hold("Returns the same as relayDelay, but is computed with a table of all pairs of towers.",

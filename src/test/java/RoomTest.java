@@ -27,7 +27,7 @@ final class RoomTest {
         Check.finish("RoomTest");
     }
 
-    /** All are made with the object itself, by fields and by the one constructor that has a loop, but for exceptions. */
+    /** All are made with the object itself, by fields and by the one constructor with a loop, but for exceptions. */
     private static void whereObjectsAreMade() throws IOException {
         Path source = Path.of(System.getProperty("source", "src/main/java/SmokeRelay.java"));
         for (String line : Files.readAllLines(source)) {
@@ -54,7 +54,7 @@ final class RoomTest {
         return relay;
     }
 
-    /** The number of objects and arrays, and that of all their fields and elements; texts are constants of the class. */
+    /** The number of objects and arrays, and that of all their fields and elements, but for the enum's constants. */
     private static int[] roomOf(Object start) throws IllegalAccessException {
         Set<Object> seen = Collections.newSetFromMap(new IdentityHashMap<>());
         Deque<Object> open = new ArrayDeque<>();

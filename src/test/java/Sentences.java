@@ -15,7 +15,7 @@ import java.util.regex.Pattern;
  */
 final class Sentences {
     private static final Pattern SIGNATURE = Pattern.compile("^(\\w+ )?\\w+\\([^)]*\\)( throws [\\w, ]+)?: ");
-    /** The names of parameters, which FaceTest looks up, comments of the interface, names of terms, and the overview. */
+    /** The names of parameters (FaceTest looks them up), comments of the interface, names of terms, the overview. */
     private static final Pattern NO_PROMISE = Pattern.compile("\\w+: the (position|height|mood|wind|letter|pattern"
             + "|index of the (one |other |first |last )?tower)|Ahead of the calls .* the interface says: .*"
             + "|(Ground and towers|Sight|Wind|Relays|Patterns|Moods|Sending|Codes|Watches|Commands|Undo)\\."
